@@ -143,7 +143,10 @@ public final class DictionaryHouse {
         // It stands already while its methods are looked at, for they may use it themselves.
         classes.addInstance(c, shape, context);
         classes.setBodies(c, shape, m0, m1, m2);
-        int wrong = checker.wrongOfInstance(c, shape);
+        int wrong = RIGHT;
+        for (int m = 0; m < methods && wrong == RIGHT; m++) {
+            wrong = checker.wrongOfMethod(c, shape, m);
+        }
         if (wrong != RIGHT) {
             classes.removeInstance(c, shape);
         }
@@ -1041,19 +1044,8 @@ public final class DictionaryHouse {
             return g;
         }
 
-        /** Of an instance that stands already: what is wrong with its methods. */
-        int wrongOfInstance(int c, int shape) {
-            for (int m = 0; m < classes.methodsOf(c); m++) {
-                int wrong = wrongOfMethod(c, shape, m);
-                if (wrong != RIGHT) {
-                    return wrong;
-                }
-                plans.write(Plans.ofMethod(c, shape, m), typing);
-            }
-            return RIGHT;
-        }
-
-        private int wrongOfMethod(int c, int shape, int m) {
+        /** Of an instance that stands already; a method that is right can be run from then on. */
+        int wrongOfMethod(int c, int shape, int m) {
             if (!typing.findTypes(classes.body(c, shape, m))) {
                 return NO_TYPE;
             }
@@ -1061,7 +1053,11 @@ public final class DictionaryHouse {
                 return NO_TYPE;
             }
             graph.forgetVariables();
-            return conditions.wrongWith(shape == LISTS ? classes.contextOfLists(c) : NONE);
+            int wrong = conditions.wrongWith(shape == LISTS ? classes.contextOfLists(c) : NONE);
+            if (wrong == RIGHT) {
+                plans.write(Plans.ofMethod(c, shape, m), typing);
+            }
+            return wrong;
         }
 
         private int nodeForShape(int shape) {
@@ -1279,17 +1275,10 @@ public final class DictionaryHouse {
             return kind(list) == PAIR_CELL ? field(list, 2) : 0;
         }
 
-        int elementOf(int list, int index) {
-            int at = list;
+        /** Lists and what is bound around a place are chains of the same form. */
+        int elementOf(int chain, int index) {
+            int at = chain;
             for (int i = 0; i < index; i++) {
-                at = field(at, 1);
-            }
-            return field(at, 0);
-        }
-
-        int boundIn(int environment, int k) {
-            int at = environment;
-            for (int i = 0; i < k; i++) {
                 at = field(at, 1);
             }
             return field(at, 0);
@@ -1426,7 +1415,7 @@ public final class DictionaryHouse {
                     yieldValue(primitiveCell(subject));
                     break;
                 case LOCAL:
-                    yieldValue(heap.boundIn(environment, subject));
+                    yieldValue(heap.elementOf(environment, subject));
                     break;
                 case LAMBDA:
                     yieldValue(heap.newCell(Heap.CLOSURE_CELL, subject, spot + 1, environment, frame));

@@ -19,9 +19,11 @@ public final class DefineTest {
         tooManyConditions(expect);
         tooManyLists(expect);
         tooManyTypes(expect);
+        asManyTypesAsThereAre(expect);
         firstOfThese(expect);
         given(expect);
         longTypes(expect);
+        deepTypes(expect);
         full(expect);
         expect.end();
     }
@@ -296,7 +298,8 @@ public final class DefineTest {
         expect.same("four lists to a variable", TOO_MUCH, () -> x.define(four));
         int three = b.lambdas(1, b.call(use, b.nested(3, b.local(0))));
         expect.same("three lists to a variable", 1, () -> x.define(three));
-        expect.same("four lists to what is not fulfilled", UNFULFILLED, () -> x.define(b.call(use, b.nested(4, truth))));
+        int bad = b.call(use, b.nested(4, truth));
+        expect.same("four lists to what is not fulfilled", UNFULFILLED, () -> x.define(bad));
         expect.same("four lists to a stray one", STRAY, () -> x.define(b.call(use, b.nested(3, b.nil()))));
         int free = b.call(x.use(d, 0), b.nested(6, one));
         expect.same("lists that are not followed", 2, () -> x.define(free));
@@ -331,6 +334,17 @@ public final class DefineTest {
         expect.same("deeper than there are numbers", TOO_MUCH,
                 () -> deep.house.define(deep.call(g, deep.call(g, deep.call(g, deep.number(1))))));
         expect.same("as deep as there are", 1, () -> deep.house.define(deep.call(g, deep.number(1))));
+    }
+
+    private static void asManyTypesAsThereAre(Expect expect) {
+        Builder b = new Builder();
+        DictionaryHouse x = b.house;
+        expect.same("14 lists", 0, () -> x.define(b.nested(14, b.number(1))));
+        expect.same("28 lists", 1, () -> x.define(b.nested(14, x.given(0))));
+        expect.same("31 lists", TOO_MUCH, () -> x.define(b.nested(3, x.given(1))));
+        expect.same("30 lists", 2, () -> x.define(b.nested(2, x.given(1))));
+        expect.same("the fortieth type", 39, () -> x.scheme(2, 0));
+        expect.same("31 lists", TOO_MUCH, () -> x.define(b.nested(1, x.given(2))));
     }
 
     /** Each wrong in two ways: the first of them is told. */
@@ -394,6 +408,24 @@ public final class DefineTest {
         expect.same("very long, but not in the type", 1, () -> x.define(hidden));
         expect.same("very long", TOO_MUCH, () -> x.define(many));
         expect.same("it runs", 4 + 27 * 4, () -> x.run(1, 300));
+    }
+
+    /** Types as deep as a definition can make them, many times over. */
+    private static void deepTypes(Expect expect) {
+        Builder b = new Builder();
+        DictionaryHouse x = b.house;
+        expect.same("a deep one", 0, () -> x.define(b.lambdas(8, b.nested(12, b.local(7)))));
+        int given = x.given(0);
+        int e = b.number(1);
+        for (int i = 0; i < 28; i++) {
+            e = x.apply(given, e);
+        }
+        int deep = e;
+        expect.same("too deep by far", TOO_MUCH, () -> x.define(deep));
+        int hidden = b.call(b.lambdas(1, b.number(7)), deep);
+        expect.same("not in the type", 1, () -> x.define(hidden));
+        expect.same("it runs", 4 + 28 * 4, () -> x.run(1, 300));
+        expect.same("no types but the first one's were made", 30, () -> x.list(9));
     }
 
     private static void full(Expect expect) {

@@ -36,7 +36,8 @@ public final class FaceTest {
         expect.same("the methods", due, () -> got);
         for (Method method : DictionaryHouse.class.getDeclaredMethods()) {
             if (Modifier.isPrivate(method.getModifiers())) {
-                expect.same("a name of its own: " + method.getName(), false, () -> publicNames.contains(method.getName()));
+                String name = method.getName();
+                expect.same("a name of its own: " + name, false, () -> publicNames.contains(name));
             }
         }
         for (Field field : DictionaryHouse.class.getDeclaredFields()) {

@@ -190,10 +190,11 @@ public final class RandomRunsTest implements SideBySide.Play {
     }
 
     private void ask() {
-        switch (random.nextInt(4)) {
+        switch (random.nextInt(6)) {
             case 0 -> sides.is(some(classes), some(types));
             case 1 -> sides.value(some(4));
-            default -> sides.run(some(definitions), random.nextInt(4) == 0 ? random.nextInt(40) : 300 + random.nextInt(60) / 59);
+            case 2 -> sides.run(some(definitions), random.nextInt(40));
+            default -> sides.run(some(definitions), random.nextInt(60) == 0 ? 301 : 300);
         }
     }
 }

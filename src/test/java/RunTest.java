@@ -101,8 +101,8 @@ public final class RunTest {
         comesTo(expect, "IF not", b, b.choose(b.falseOne(), b.number(3), b.number(2)), 7, 2);
         int sums = b.choose(b.trueOne(), b.number(3), b.plus(b.number(1), b.number(1)));
         comesTo(expect, "IF has both evaluated", b, sums, 11, 3);
-        int chosen = b.call(b.choose(b.falseOne(), b.house.primitive(3), b.house.primitive(3)), b.number(1), b.number(2));
-        comesTo(expect, "IF of primitives", b, chosen, 11, 1);
+        int chosen = b.choose(b.falseOne(), b.house.primitive(3), b.house.primitive(3));
+        comesTo(expect, "IF of primitives", b, b.call(chosen, b.number(1), b.number(2)), 11, 1);
     }
 
     /** Which of two that do not end in time is met first cannot be seen, but the steps can. */
@@ -145,7 +145,8 @@ public final class RunTest {
         int begin = b.lambdas(2, b.local(0));
         comesTo(expect, "what came out so far", b, b.fold(begin, b.number(8), three), 19 + 3 * 3, 8);
         int digits = b.lambdas(2, b.plus(b.local(1), b.plus(b.local(0), b.local(0))));
-        comesTo(expect, "from the last to the first", b, b.fold(digits, b.number(0), three), 19 + 3 * 11, 1 + 2 * (2 + 2 * 3));
+        int weighted = b.fold(digits, b.number(0), three);
+        comesTo(expect, "from the last to the first", b, weighted, 19 + 3 * 11, 1 + 2 * (2 + 2 * 3));
         comesTo(expect, "of an empty list", b, b.fold(plus, b.number(8), b.nil()), 7, 8);
         int join = b.call(x.primitive(7), cons);
         int lists = b.listOf(b.listOf(b.number(1)), b.listOf(b.number(2), b.number(3)));

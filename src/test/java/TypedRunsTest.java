@@ -60,7 +60,7 @@ public final class TypedRunsTest implements SideBySide.Play {
         PlainHouse.Type[] usual = {A, arrows(A, BOOL), arrows(A, A, BOOL), arrows(A, A), arrows(A, A, A),
             arrows(A, INT), arrows(INT, A), arrows(listOf(A), A), arrows(A, listOf(A)),
             arrows(arrows(A, A), A, A)};
-        int many = 1 + random.nextInt(4);
+        int many = 1 + random.nextInt(3);
         for (int i = 0; i < many; i++) {
             classes = 1 + number(sides.type(i > 0 && random.nextBoolean() ? random.nextInt(i) : -1));
             int own = random.nextInt(3);
@@ -85,14 +85,14 @@ public final class TypedRunsTest implements SideBySide.Play {
 
     private void makeInstances(int c) {
         for (int shape = 0; shape < 3; shape++) {
-            for (int tries = 0; tries < 2 && expressions < 120; tries++) {
+            for (int tries = 0; tries < 2 && expressions < 80; tries++) {
                 int way = random.nextInt(4);
                 int context = shape < 2 || way == 0 ? -1 : way == 1 ? random.nextInt(classes) : c;
                 PlainHouse.Type forWhat = shape == 0 ? INT : shape == 1 ? BOOL : listOf(SOME);
                 int[] bodies = new int[3];
                 for (Method method : methods) {
                     if (method.c() == c) {
-                        bodies[method.m()] = grow(put(method.type(), forWhat), new ArrayList<>(), 3);
+                        bodies[method.m()] = grow(put(method.type(), forWhat), new ArrayList<>(), 2);
                     }
                 }
                 if (number(sides.instance(c, shape, context, bodies)) == 0) {
@@ -103,10 +103,11 @@ public final class TypedRunsTest implements SideBySide.Play {
     }
 
     private void makeDefinition() {
-        PlainHouse.Type[] usual = {INT, INT, BOOL, listOf(INT), listOf(BOOL), arrows(SOME, INT), arrows(SOME, SOME),
-            arrows(SOME, listOf(SOME)), arrows(SOME, SOME, BOOL), arrows(listOf(SOME), BOOL), arrows(INT, SOME)};
+        PlainHouse.Type[] usual = {INT, INT, INT, BOOL, BOOL, listOf(INT), listOf(INT), listOf(BOOL),
+            arrows(SOME, INT), arrows(SOME, SOME), arrows(SOME, listOf(SOME)), arrows(SOME, SOME, BOOL),
+            arrows(listOf(SOME), BOOL), arrows(INT, SOME)};
         PlainHouse.Type type = usual[random.nextInt(usual.length)];
-        int e = grow(type, new ArrayList<>(), 2 + random.nextInt(4));
+        int e = grow(type, new ArrayList<>(), 1 + random.nextInt(4));
         int g = number(sides.define(e));
         if (g >= 0) {
             definitions.add(sides.plain().typeNumbered(number(sides.scheme(g, 0))));
@@ -172,10 +173,10 @@ public final class TypedRunsTest implements SideBySide.Play {
         int less = fuel - 1 - random.nextInt(2);
         switch (random.nextInt(9)) {
             case 0:
-                return call(kept(sides.primitive(4)), grow(BOOL, around, less), grow(t, around, less), grow(t, around, less));
+                return growChoice(t, around, less);
             case 1: {
                 PlainHouse.Type of = smallType();
-                int f = grow(arrows(of, t, t), around, less);
+                int f = kept(sides.lambda(kept(sides.lambda(grow(t, with(t, with(of, around)), less)))));
                 return call(kept(sides.primitive(7)), f, grow(t, around, less), grow(listOf(of), around, less));
             }
             case 2: {
@@ -190,6 +191,12 @@ public final class TypedRunsTest implements SideBySide.Play {
             default:
                 return growByShape(t, around, less);
         }
+    }
+
+    private int growChoice(PlainHouse.Type t, List<PlainHouse.Type> around, int less) {
+        int test = grow(BOOL, around, less);
+        int first = grow(t, around, less);
+        return call(kept(sides.primitive(4)), test, first, grow(t, around, less));
     }
 
     private static List<PlainHouse.Type> with(PlainHouse.Type t, List<PlainHouse.Type> around) {
@@ -269,8 +276,12 @@ public final class TypedRunsTest implements SideBySide.Play {
         if (t instanceof PlainHouse.Arrow f) {
             return kept(sides.lambda(leaf(f.to(), with(f.from(), around))));
         }
-        if (t instanceof PlainHouse.ListOf) {
-            return kept(sides.primitive(5));
+        if (t instanceof PlainHouse.ListOf l) {
+            int e = kept(sides.primitive(5));
+            for (int many = random.nextInt(4); many > 0; many--) {
+                e = call(kept(sides.primitive(6)), leaf(l.of(), around), e);
+            }
+            return e;
         }
         if (t.equals(BOOL)) {
             return kept(sides.primitive(random.nextInt(2)));
