@@ -209,8 +209,11 @@ public final class DictionaryHouse {
     private boolean isMember(int c, int t) {
         int inClass = c;
         int of = t;
-        // What a list is of has a lower number than the list, so this ends.
-        while (types.isList(of) && classes.contextOfLists(inClass) != NONE) {
+        // What a list is of has a lower number than the list, so as many turns as types are enough.
+        for (int turn = 0; turn < MOST_TYPES && types.isList(of); turn++) {
+            if (classes.contextOfLists(inClass) == NONE) {
+                break;
+            }
             inClass = classes.contextOfLists(inClass);
             of = types.left(of);
         }
@@ -352,8 +355,8 @@ public final class DictionaryHouse {
         /** Whether what is in the lower class is thereby in the upper one, too. */
         boolean reaches(int lower, int upper) {
             int c = lower;
-            // The one above always has a lower number, so this ends.
-            while (c != NONE && c != upper) {
+            // The one above always has a lower number, so as many turns as classes are enough.
+            for (int turn = 0; turn < MOST_CLASSES && c != NONE && c != upper; turn++) {
                 c = above[c];
             }
             return c == upper;
@@ -541,7 +544,7 @@ public final class DictionaryHouse {
         /** The node that stands for all that were joined with this one. */
         int root(int node) {
             int n = node;
-            while (link[n] != n) {
+            for (int turn = 0; turn < MOST_NODES && link[n] != n; turn++) {
                 link[n] = link[link[n]];
                 n = link[n];
             }
@@ -608,7 +611,7 @@ public final class DictionaryHouse {
                     waiting[taken++] = n;
                 }
             }
-            for (int next = 0; next < taken; next++) {
+            for (int next = 0; next < taken && next < MOST_NODES; next++) {
                 int n = waiting[next];
                 taken = release(left[n], taken);
                 taken = release(right[n], taken);
