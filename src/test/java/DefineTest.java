@@ -23,6 +23,7 @@ public final class DefineTest {
         firstOfThese(expect);
         given(expect);
         longTypes(expect);
+        longTypesJoined(expect);
         deepTypes(expect);
         full(expect);
         expect.end();
@@ -408,6 +409,35 @@ public final class DefineTest {
         expect.same("very long, but not in the type", 1, () -> x.define(hidden));
         expect.same("very long", TOO_MUCH, () -> x.define(many));
         expect.same("it runs", 4 + 27 * 4, () -> x.run(1, 300));
+    }
+
+    /** Two very long types that differ in nothing but their first part, or not at all. */
+    private static void longTypesJoined(Expect expect) {
+        Builder b = new Builder();
+        DictionaryHouse x = b.house;
+        int six = b.local(0);
+        for (int i = 0; i < 6; i++) {
+            six = b.call(six, b.local(1));
+        }
+        x.define(b.lambdas(2, six));
+        int many = b.number(1);
+        for (int i = 0; i < 5; i++) {
+            many = x.apply(x.given(0), many);
+        }
+        int ofInt = joined(b, many, b.number(1));
+        int ofBool = joined(b, many, b.trueOne());
+        expect.same("they are the same", 1, () -> x.define(ofInt));
+        expect.same("they differ", NO_TYPE, () -> x.define(ofBool));
+    }
+
+    /** One argument is a function from INT to the long type, one from the other's: then they are joined. */
+    private static int joined(Builder b, int many, int other) {
+        int first = b.choose(b.trueOne(), b.call(b.local(1), b.number(1)), many);
+        int second = b.choose(b.trueOne(), b.call(b.local(0), other), many);
+        int third = b.choose(b.trueOne(), b.local(1), b.local(0));
+        int seven = b.number(7);
+        int all = b.lambdas(2, b.call(b.lambdas(3, seven), first, second, third));
+        return b.call(b.lambdas(1, seven), all);
     }
 
     /** Types as deep as a definition can make them, many times over. */

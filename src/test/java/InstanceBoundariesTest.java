@@ -515,13 +515,12 @@ public final class InstanceBoundariesTest {
             twins.leavesAll("-5 ahead of -1", NOT_ABOVE, past, (x, e) -> x.instance(1, 0, -1, e, 0, 0));
         });
         expect.sentence("WRONG, the first of these: as with a scheme", () -> {
-            String[] names = {"-1", "-2", "-3", "-4"};
-            for (int i = 0; i < 4; i++) {
-                for (int j = 0; j < 4; j++) {
+            for (int i = 0; i < WrongParts.WAYS; i++) {
+                for (int j = 0; j < WrongParts.WAYS; j++) {
                     int one = i;
                     int other = j;
-                    twins.leavesAll(names[one] + " and " + names[other], -1 - Math.min(one, other),
-                            b -> wrongInTwoWays(b, one, other), (x, e) -> x.instance(1, 0, -1, e, 0, 0));
+                    forLists("parts " + one + " and " + other, WrongParts.dueForLists(one, other),
+                            b -> WrongParts.both(b, one, other));
                 }
             }
         });
@@ -535,26 +534,14 @@ public final class InstanceBoundariesTest {
         });
     }
 
-    private static int wrongInTwoWays(Builder b, int one, int other) {
-        inLists(b, 1);
-        b.classWith(-1, 2);
-        int first = wrongPart(b, one);
-        int second = wrongPart(b, other);
-        return b.lambdas(1, b.plus(first, second));
-    }
-
-    /** A part that comes to INT, for class 1 and INT. */
-    private static int wrongPart(Builder b, int way) {
-        int use = b.house.use(0, 0);
-        switch (way) {
-            case 0:
-                return b.plus(b.number(1), b.trueOne());
-            case 1:
-                return b.call(use, b.falseOne());
-            case 2:
-                return b.call(use, b.house.use(2, 0));
-            default:
-                return b.call(use, b.nested(4, b.number(1)));
+    private void forLists(String what, int due, Twins.Past past) {
+        Twins.Extra call = (x, e) -> x.instance(WrongParts.FREE, 2, WrongParts.USUAL, e, 0, 0);
+        if (due != 0) {
+            twins.leavesAll(what, due, past, call);
+        } else {
+            Builder b = new Builder();
+            int e = past.make(b);
+            expect.same(what, 0, () -> call.call(b.house, e));
         }
     }
 

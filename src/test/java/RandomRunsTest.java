@@ -42,6 +42,9 @@ public final class RandomRunsTest implements SideBySide.Play {
         while (sides.callCount() < CALLS - 8 && !sides.hasFailed()) {
             anyCall();
         }
+        while (sides.callCount() < CALLS && !sides.hasFailed()) {
+            sides.is(some(classes), some(types));
+        }
     }
 
     /** Types of which methods can well be: from a to a, to BOOL, to INT, from INT, of lists. */
@@ -96,6 +99,9 @@ public final class RandomRunsTest implements SideBySide.Play {
         }
         if (odd == 1) {
             return -1 - random.nextInt(2);
+        }
+        if (odd == 2 && random.nextInt(4) == 0) {
+            return random.nextBoolean() ? Integer.MAX_VALUE : Integer.MIN_VALUE;
         }
         return count == 0 ? 0 : random.nextInt(count);
     }

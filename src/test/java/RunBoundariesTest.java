@@ -17,6 +17,8 @@ public final class RunBoundariesTest {
         test.lessAndIf();
         test.folds();
         test.typesThatStandThere();
+        test.typesByInstances();
+        test.everyMethod();
         test.refusedRuns();
         test.notShown();
         test.values();
@@ -283,6 +285,82 @@ public final class RunBoundariesTest {
             expect.same("INT through two given ones", 100, () -> result(b, b.call(given, b.number(1))));
             expect.same("BOOL through them", 101, () -> result(b, b.call(given, b.trueOne())));
             expect.same("a list through them", 102, () -> result(b, b.call(given, b.nested(1, b.number(1)))));
+        });
+    }
+
+    private void typesByInstances() {
+        expect.sentence("a list of a variable .. the type that stands there then", () -> {
+            Builder b = new Builder();
+            b.classWith(-1, b.house.function(2, 0));
+            b.instance(0, 0, -1, b.lambdas(1, b.local(0)));
+            b.instance(0, 1, -1, b.lambdas(1, b.choose(b.local(0), b.number(10), b.number(20))));
+            int use = b.house.use(0, 0);
+            int step = b.lambdas(2, b.plus(b.call(use, b.local(1)), b.local(0)));
+            b.instance(0, 2, 0, b.lambdas(1, b.fold(step, b.number(1000), b.local(0))));
+            expect.same("INT", 7, () -> result(b, b.call(use, b.number(7))));
+            int truths = b.listOf(b.trueOne(), b.falseOne());
+            expect.same("a list of BOOL", 1030, () -> result(b, b.call(use, truths)));
+            expect.same("a list of lists of BOOL", 3060, () -> result(b, b.call(use, b.listOf(truths, truths))));
+            expect.same("three lists of INT", 3007, () -> result(b, b.call(use, b.nested(3, b.number(7)))));
+        });
+    }
+
+    /** In class 5 INT tells 1, BOOL 10, a list 100; which of them a method asks for, this tells. */
+    private static int kindOf(int c, int shape, int m) {
+        return (c + c / 3 + 2 * shape + m * m) % 3;
+    }
+
+    /** Classes 0 to 4 with three methods a -> INT and three instances each, all of which ask class 5. */
+    private static void fiveClasses(Builder b) {
+        int toInt = b.house.function(2, 0);
+        for (int c = 0; c < 5; c++) {
+            b.classWith(-1, toInt);
+            b.house.method(c, toInt);
+            b.house.method(c, toInt);
+        }
+        int tells = b.house.use(b.classWith(-1, toInt), 0);
+        b.instance(5, 0, -1, b.lambdas(1, b.number(1)));
+        b.instance(5, 1, -1, b.lambdas(1, b.number(10)));
+        b.instance(5, 2, -1, b.lambdas(1, b.number(100)));
+        int[] bodies = {b.lambdas(1, b.call(tells, b.number(0))), b.lambdas(1, b.call(tells, b.trueOne())),
+            b.lambdas(1, b.call(tells, b.nil()))};
+        for (int c = 0; c < 5; c++) {
+            for (int shape = 0; shape < 3; shape++) {
+                b.house.instance(c, shape, -1, bodies[kindOf(c, shape, 0)], bodies[kindOf(c, shape, 1)],
+                        bodies[kindOf(c, shape, 2)]);
+            }
+        }
+    }
+
+    private void everyMethod() {
+        expect.sentence("a use is the expression of the method in the instance: of each class, shape and method", () -> {
+            int[] told = {1, 10, 100};
+            Builder b = new Builder();
+            fiveClasses(b);
+            int[] arguments = {b.number(0), b.trueOne(), b.nil()};
+            int cons = b.house.primitive(6);
+            int[] lists = new int[15];
+            for (int i = 0; i < 15; i++) {
+                int use = b.house.use(i / 3, i % 3);
+                lists[i] = arguments[2];
+                for (int shape = 2; shape >= 0; shape--) {
+                    lists[i] = b.call(cons, b.call(use, arguments[shape]), lists[i]);
+                }
+            }
+            // As many as there can be, and all of them ahead of the first run.
+            for (int g = 0; g < 20; g++) {
+                b.house.define(lists[g % 15]);
+            }
+            for (int i = 0; i < 20; i++) {
+                int g = i;
+                int c = g % 15 / 3;
+                int m = g % 3;
+                expect.same("class " + c + ", method " + m, 1 + 3 * 3 + 3 * 9, () -> b.house.run(g, 300));
+                for (int j = 0; j < 3; j++) {
+                    int shape = j;
+                    expect.same("shape " + shape, told[kindOf(c, shape, m)], () -> b.house.value(shape));
+                }
+            }
         });
     }
 

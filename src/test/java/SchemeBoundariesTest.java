@@ -13,6 +13,7 @@ public final class SchemeBoundariesTest {
         test.typesOfPrimitives();
         test.orderOfVariables();
         test.conditionsThatRemain();
+        test.conditionsOfEach();
         test.noType();
         test.localsAndLambdas();
         test.unfulfilled();
@@ -62,6 +63,12 @@ public final class SchemeBoundariesTest {
             int turned = b.lambdas(3, b.call(b.local(2), b.local(0), b.local(1)));
             int due = b.arrow(b.arrow(2, 3, 4), 3, 2, 4);
             expect.same("a function that is turned", due, () -> b.house.scheme(b.house.define(turned), 0));
+        });
+        expect.sentence("a primitive has its own, with any types for a and b", () -> {
+            Builder b = new Builder();
+            int nil = b.nil();
+            int lists = b.house.list(b.house.list(2));
+            expect.same("one expression at two places", lists, () -> b.house.scheme(b.house.define(b.cons(nil, nil)), 0));
         });
     }
 
@@ -122,6 +129,24 @@ public final class SchemeBoundariesTest {
             int two = b.lambdas(1, b.call(b.house.use(0, 0), b.nested(2, b.local(0))));
             expect.same("a list", 24, () -> b.house.scheme(b.house.define(one), 2));
             expect.same("a list of lists", 8, () -> b.house.scheme(b.house.define(two), 2));
+        });
+    }
+
+    private void conditionsOfEach() {
+        expect.sentence("of all its conditions those that remain: its own, and no other definition's", () -> {
+            Builder b = new Builder();
+            classes(b);
+            int use = b.house.use(3, 0);
+            int[] others = {b.lambdas(1, b.local(0)), b.lambdas(2, b.local(0)), b.lambdas(2, b.local(1)),
+                b.lambdas(3, b.local(1)), b.nil(), b.house.primitive(4), b.house.primitive(6), b.house.primitive(7)};
+            int g = b.house.define(use);
+            for (int i = 0; i < others.length; i++) {
+                int next = g + 1 + i;
+                int e = others[i];
+                expect.same("another one", next, () -> b.house.define(e));
+                expect.same("has none", 0, () -> b.house.scheme(next, 1));
+            }
+            expect.same("the first still has its own", 24, () -> b.house.scheme(g, 2));
         });
     }
 
@@ -455,48 +480,33 @@ public final class SchemeBoundariesTest {
         });
     }
 
-    /** A part that comes to INT, for a house made by withInstances(b, 1 + 4) and a class with a method of type a. */
-    private static int wrongPart(Builder b, int way) {
-        switch (way) {
-            case 0:
-                return b.plus(b.number(1), b.trueOne());
-            case 1:
-                return b.call(b.house.use(0, 0), b.falseOne());
-            case 2:
-                return b.call(b.house.use(0, 0), b.house.use(1, 0));
-            default:
-                return b.call(b.house.use(0, 0), b.nested(4, b.number(1)));
-        }
-    }
-
     private void firstOfThese() {
         expect.sentence("WRONG, the first of these", () -> {
-            for (int i = 0; i < 4; i++) {
-                for (int j = 0; j < 4; j++) {
+            for (int i = 0; i < WrongParts.WAYS; i++) {
+                for (int j = 0; j < WrongParts.WAYS; j++) {
                     int one = i;
                     int other = j;
-                    wrong((-1 - one) + " and " + (-1 - other), -1 - Math.min(one, other), b -> {
-                        withInstances(b, 5);
-                        b.classWith(-1, 2);
-                        int first = wrongPart(b, one);
-                        return b.plus(first, wrongPart(b, other));
-                    });
+                    int due = WrongParts.dueOfDefinition(one, other);
+                    String what = "parts " + one + " and " + other;
+                    if (due != 0) {
+                        wrong(what, due, b -> WrongParts.both(b, one, other));
+                    } else {
+                        Builder b = new Builder();
+                        int e = WrongParts.both(b, one, other);
+                        expect.same(what, 0, () -> b.house.define(e));
+                    }
                 }
             }
         });
         expect.sentence("WRONG, the first of these: ahead of the other kinds of -4", () -> {
-            for (int i = 0; i < 3; i++) {
+            for (int i = 0; i < WrongParts.WAYS; i++) {
                 int way = i;
-                int due = -1 - way;
-                wrong(due + " and nine variables", due, b -> {
-                    withInstances(b, 5);
-                    b.classWith(-1, 2);
-                    return b.lambdas(9, wrongPart(b, way));
-                });
-                wrong(due + " and no room for its type", due, b -> {
-                    withInstances(b, 5);
-                    b.classWith(-1, 2);
-                    return filledTo(b, 40, b.nested(1, wrongPart(b, way)));
+                int due = WrongParts.dueOfDefinition(way, way);
+                int first = due == 0 ? TOO_MUCH : due;
+                wrong("part " + way + " and nine variables", first, b -> b.lambdas(9, WrongParts.both(b, way, way)));
+                wrong("part " + way + " and no room for its type", first, b -> {
+                    int e = b.nested(1, WrongParts.both(b, way, way));
+                    return filledTo(b, 40, e);
                 });
             }
             wrong("-2 and nine conditions", UNFULFILLED,

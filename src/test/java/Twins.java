@@ -29,7 +29,7 @@ final class Twins {
     private final Expect expect;
     private final Probe[] probes = {
         Twins::askMembers, Twins::askSchemes, Twins::askValues, Twins::makeDefinitions,
-        Twins::makeLambdas, Twins::makeTypes, Twins::makeClasses, Twins::makeUses,
+        Twins::makeLambdas, Twins::makeTypes, Twins::makeClasses, Twins::makeUses, Twins::makeProgram,
     };
 
     Twins(Expect expect) {
@@ -161,5 +161,45 @@ final class Twins {
         ask(answers, "number(7)", () -> x.number(7));
         ask(answers, "primitive(7)", () -> x.primitive(7));
         ask(answers, "local(9)", () -> x.local(9));
+    }
+
+    /** The next numbers are asked for, and whatever they are, something new is made of them. */
+    private static void makeProgram(DictionaryHouse x, List<String> answers) {
+        int toInt = kept(answers, () -> x.function(2, 0));
+        int c = kept(answers, () -> x.type(-1));
+        kept(answers, () -> x.method(c, toInt));
+        int one = kept(answers, () -> x.number(1));
+        int constant = kept(answers, () -> x.lambda(one));
+        int use = kept(answers, () -> x.use(c, 0));
+        int local = kept(answers, () -> x.local(0));
+        int same = kept(answers, () -> x.lambda(local));
+        int itself = kept(answers, () -> x.apply(local, local));
+        int endless = kept(answers, () -> x.lambda(itself));
+        int sameSame = kept(answers, () -> x.apply(same, same));
+        int used = kept(answers, () -> x.apply(use, one));
+        int[] all = {same, use, sameSame, endless, constant, used, same, use};
+        for (int e : all) {
+            schemeOf(x, kept(answers, () -> x.define(e)), answers);
+        }
+        kept(answers, () -> x.instance(c, 0, -1, same, -1, -1));
+        int g = kept(answers, () -> x.define(used));
+        kept(answers, () -> x.run(g, 300));
+        kept(answers, () -> x.value(0));
+        kept(answers, () -> x.instance(c, 2, c, constant, -1, -1));
+        kept(answers, () -> x.instance(c, 1, -1, constant, -1, -1));
+    }
+
+    private static void schemeOf(DictionaryHouse x, int g, List<String> answers) {
+        for (int i = 0; i < 3; i++) {
+            int what = i;
+            kept(answers, () -> x.scheme(g, what));
+        }
+    }
+
+    /** The number that was answered; when something was thrown, one that there is nowhere. */
+    private static int kept(List<String> answers, Expect.Call call) {
+        String answer = Expect.outcome(call);
+        answers.add(answer);
+        return answer.endsWith("Exception") ? Integer.MIN_VALUE : Integer.parseInt(answer);
     }
 }
