@@ -82,6 +82,16 @@ final class Builder {
         return inner;
     }
 
+    /** A sum of so many places, 1, 5, 9, .., which takes as many steps. */
+    int sumOf(int places) {
+        int one = number(1);
+        int e = one;
+        for (int has = 1; has < places; has += 4) {
+            e = plus(e, one);
+        }
+        return e;
+    }
+
     int arrow(int... all) {
         int t = all[all.length - 1];
         for (int i = all.length - 2; i >= 0; i--) {

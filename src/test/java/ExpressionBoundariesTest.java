@@ -127,7 +127,7 @@ public final class ExpressionBoundariesTest {
         expect.sentence("a USE of a method; a GIVEN definition: a place each", () -> {
             Builder b = new Builder();
             filled(b, 1);
-            expect.same("of 57 places", 1, () -> b.house.define(sum(b, 57)));
+            expect.same("of 57 places", 1, () -> b.house.define(b.sumOf(57)));
             int given = b.house.given(1);
             expect.same("59 around it", given + 59, () -> b.lambdas(59, given));
             int use = b.house.use(0, 0);
@@ -141,15 +141,6 @@ public final class ExpressionBoundariesTest {
         int e = b.number(1);
         for (int i = 0; i < times; i++) {
             e = b.house.apply(e, e);
-        }
-        return e;
-    }
-
-    private static int sum(Builder b, int places) {
-        int one = b.number(1);
-        int e = one;
-        for (int has = 1; has < places; has += 4) {
-            e = b.plus(e, one);
         }
         return e;
     }

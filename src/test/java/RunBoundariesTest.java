@@ -103,19 +103,9 @@ public final class RunBoundariesTest {
         });
     }
 
-    /** A sum of so many places, which is so many steps: 1, 5, 9, .. */
-    private static int sum(Builder b, int places) {
-        int one = b.number(1);
-        int e = one;
-        for (int has = 1; has < places; has += 4) {
-            e = b.plus(e, one);
-        }
-        return e;
-    }
-
     /** Of 300 steps: each given one adds a step, each application of the identity three. */
     private static int threeHundred(Builder b) {
-        b.house.define(sum(b, 57));
+        b.house.define(b.sumOf(57));
         int first = b.house.given(0);
         b.house.define(b.plus(first, first));
         int second = b.house.given(1);
