@@ -975,7 +975,7 @@ public final class DictionaryHouse {
                 at = graph.left(at);
                 lists++;
             }
-            far |= lists > MOST_LISTS_FOLLOWED;
+            far = far || lists > MOST_LISTS_FOLLOWED;
             judge(inClass, at);
         }
 
@@ -983,19 +983,19 @@ public final class DictionaryHouse {
             switch (graph.kind(at)) {
                 case INT:
                 case BOOL:
-                    unfulfilled |= !classes.hasInstance(c, graph.kind(at));
+                    unfulfilled = unfulfilled || !classes.hasInstance(c, graph.kind(at));
                     break;
                 case Graph.LIST:
-                    unfulfilled |= !classes.hasInstance(c, LISTS);
+                    unfulfilled = unfulfilled || !classes.hasInstance(c, LISTS);
                     break;
                 case Graph.FUNCTION:
                     unfulfilled = true;
                     break;
                 case Graph.FIXED:
-                    stray |= !classes.reaches(contextOfFixed, c);
+                    stray = stray || !classes.reaches(contextOfFixed, c);
                     break;
                 default:
-                    stray |= graph.variableNumber(at) == NONE;
+                    stray = stray || graph.variableNumber(at) == NONE;
                     classesOf[at] |= 1 << c;
                     break;
             }

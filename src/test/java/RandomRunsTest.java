@@ -39,7 +39,7 @@ public final class RandomRunsTest implements SideBySide.Play {
             prepare();
         }
         // A turn makes a few calls at most.
-        while (sides.callCount() < CALLS - 8 && !sides.hasFailed()) {
+        while (sides.callCount() < CALLS - 16 && !sides.hasFailed()) {
             anyCall();
         }
         while (sides.callCount() < CALLS && !sides.hasFailed()) {

@@ -86,12 +86,13 @@ final class SideBySide {
                 () -> plain.instance(c, shape, context, m[0], m[1], m[2]));
     }
 
-    /** With the scheme of what was defined. */
+    /** With the whole scheme of what was defined, and the first what that it has not. */
     String define(int e) {
         String answer = both("define", "(" + e + ")", () -> house.define(e), () -> plain.define(e));
         int g = numberIn(answer, -1);
-        for (int what = 0; g >= 0 && what < 4; what++) {
-            scheme(g, what);
+        String part = "";
+        for (int what = 0; g >= 0 && !part.endsWith("Exception"); what++) {
+            part = scheme(g, what);
         }
         return answer;
     }
